@@ -1,4 +1,5 @@
 import java.math.BigInteger;
+import java.util.Random;
 
 /** Promises 10 to 19: sums, products, quotients, powers and what else is reckoned in the cells. */
 public final class ArithmeticTest {
@@ -19,6 +20,7 @@ public final class ArithmeticTest {
     mul();
     mulTakes();
     divmod();
+    divmodOfEdges();
     divmodTakes();
     divmodRefused();
     powmod();
@@ -173,6 +175,27 @@ public final class ArithmeticTest {
     Checks.due("BAD_HANDLE of r", x.divmod(0, 4, 0, 2), BAD_HANDLE);
     Checks.due("BAD_HANDLE of a", x.divmod(0, 1, NONE, 2), BAD_HANDLE);
     Checks.due("BAD_HANDLE of b", x.divmod(0, 1, 0, NONE), BAD_HANDLE);
+  }
+
+  // Limbs near 0, the half and the highest: there the first guess of a digit is wrong most often.
+  private static void divmodOfEdges() {
+    int[] edges = {0, 1, 2, 16383, 16384, 16385, 32766, 32767};
+    Random random = new Random(5);
+    for (int object = 0; object < 1000; object++) {
+      NumberArena x = Checks.arena(60, 8, 6, 3, 6, 3);
+      for (int k = 0; k < 18; k++) {
+        for (int i = 0; i < 9; i++) {
+          int w = edges[random.nextInt(edges.length)];
+          x.setLimb(i / 6, i % 6, i == 8 ? Math.max(1, w) : w);
+        }
+        BigInteger[] due = Checks.get(x, 0).divideAndRemainder(Checks.get(x, 1));
+        Checks.due("divmod(2, 3, 0, 1)", x.divmod(2, 3, 0, 1), Checks.lengthOf(due[0]));
+        if (k % 5 == 0) {
+          holds("quotient", x, 2, due[0]);
+        }
+        holds("rest", x, 3, due[1]);
+      }
+    }
   }
 
   private static void divmodTakes() {
@@ -385,8 +408,8 @@ public final class ArithmeticTest {
   }
 
   private static void shift() {
-    NumberArena x = Checks.arena(800, 8, 64, 64, 1);
     for (int n : new int[] {0, 1, 14, 15, 16, 29, 30, 31, 100, 940}) {
+      NumberArena x = Checks.arena(800, 8, 64, 64);
       BigInteger value = Checks.big(1000003);
       Checks.set(x, 0, value);
       Checks.due("shift by " + n, x.shift(1, 0, n), Checks.lengthOf(value.shiftLeft(n)));
@@ -397,6 +420,8 @@ public final class ArithmeticTest {
       Checks.due("down by " + n, x.shift(1, 0, -n), Checks.lengthOf(HIGHEST.shiftRight(n)));
       holds("down by " + n, x, 1, HIGHEST.shiftRight(n));
     }
+    NumberArena x = Checks.arena(800, 8, 64, 64, 1);
+    Checks.set(x, 0, HIGHEST);
     Checks.due("by -960", x.shift(1, 0, -960), 0);
     Checks.due("by -959", x.shift(1, 0, -959), 1);
     holds("1", x, 1, 1);

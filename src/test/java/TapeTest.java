@@ -63,13 +63,14 @@ public final class TapeTest {
   }
 
   private static void number() {
-    NumberArena x = Checks.arena(200, 8, 64, 1);
     for (int base = 2; base <= 36; base++) {
+      NumberArena x = Checks.arena(200, 8, 64, 1);
       BigInteger value = Checks.power(2, 700).add(Checks.power(base, 100)).mod(Checks.power(2, 690));
       Checks.tape(x, "000" + value.toString(base));
       Checks.due("number(0, " + base + ")", x.number(0, base), Checks.lengthOf(value));
       Checks.due("base " + base, Checks.get(x, 0), value);
     }
+    NumberArena x = Checks.arena(200, 8, 64, 1);
     Checks.tape(x, "000");
     Checks.due("zeros", x.number(0, 2), 0);
     Checks.due("0", x.look(0, 0), 0);
