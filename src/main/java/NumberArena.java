@@ -784,20 +784,19 @@ public final class NumberArena {
 
         /** Only for d that is neither a nor b. */
         static void product(Row d, Row a, Row b) {
-            int la = a.length;
-            int lb = b.length;
-            Arrays.fill(d.limbs, 0, la + lb, 0);
-            for (int i = 0; i < la; i++) {
-                int factor = a.limbs[i];
-                int carry = 0;
-                for (int j = 0; j < lb; j++) {
-                    int t = d.limbs[i + j] + factor * b.limbs[j] + carry;
-                    d.limbs[i + j] = t & HIGHEST_LIMB;
-                    carry = t >> LIMB_BITS;
+            int[] x = a.limbs;
+            int[] y = b.limbs;
+            int n = a.length + b.length;
+            long column = 0;
+            for (int k = 0; k < n; k++) {
+                int last = Math.min(k, a.length - 1);
+                for (int i = Math.max(0, k - b.length + 1); i <= last; i++) {
+                    column += x[i] * y[k - i];
                 }
-                d.limbs[i + lb] = carry;
+                d.limbs[k] = (int) column & HIGHEST_LIMB;
+                column >>= LIMB_BITS;
             }
-            d.trim(la + lb);
+            d.trim(n);
         }
 
         // From the top, so that a row may be shifted onto itself.
@@ -871,18 +870,21 @@ public final class NumberArena {
             return guess;
         }
 
-        /** Whether the multiple was too great: then the divisor must be added back. */
+        /**
+         * Whether the multiple was too great: then the divisor must be added back. The limb above
+         * would be 0 in the end, and no later step looks at it, so it is left.
+         */
         private boolean subtractMultiple(int factor, int j) {
+            int[] from = dividend.limbs;
+            int[] limbs = divisor.limbs;
             int n = divisor.length;
             int borrow = 0;
             for (int i = 0; i < n; i++) {
-                int t = dividend.limbs[i + j] - factor * divisor.limbs[i] - borrow;
-                dividend.limbs[i + j] = t & HIGHEST_LIMB;
+                int t = from[i + j] - factor * limbs[i] - borrow;
+                from[i + j] = t & HIGHEST_LIMB;
                 borrow = -(t >> LIMB_BITS);
             }
-            int t = dividend.limbs[j + n] - borrow;
-            dividend.limbs[j + n] = t & HIGHEST_LIMB;
-            return t < 0;
+            return from[j + n] < borrow;
         }
 
         private void addBack(int j) {
@@ -893,7 +895,6 @@ public final class NumberArena {
                 dividend.limbs[i + j] = t & HIGHEST_LIMB;
                 carry = t >> LIMB_BITS;
             }
-            dividend.limbs[j + n] = (dividend.limbs[j + n] + carry) & HIGHEST_LIMB;
         }
 
         /** Sets result to a to the e, modulo m. */
@@ -1116,7 +1117,7 @@ public final class NumberArena {
         }
 
         private int readNumber(int at, Row row) {
-            row.length = Math.max(0, wordAt(at));
+            row.length = Math.max(0, Math.min(MOST_LIMBS, wordAt(at)));
             for (int i = 0; i < row.length; i++) {
                 row.limbs[i] = wordAt(at + 1 + i);
             }
@@ -1232,18 +1233,11 @@ public final class NumberArena {
             return n;
         }
 
-        private static int withoutFactor(int factor, int n) {
-            int left = n;
-            while (factor >= 2 && left > 0 && left % factor == 0) {
-                left /= factor;
-            }
-            return left;
-        }
-
+        /** Only for n above 0; such an n below 2 to the 30 has no factor thirty times. */
         private static int exponentOf(int factor, int n) {
             int left = n;
             int exponent = 0;
-            while (factor >= 2 && left > 0 && left % factor == 0) {
+            while (exponent < 30 && factor >= 2 && left % factor == 0) {
                 left /= factor;
                 exponent++;
             }
@@ -1259,9 +1253,10 @@ public final class NumberArena {
             if (open > MOST_NODES_OPEN || !putNumber(p)) {
                 return false;
             }
-            if (p == 2) {
-                return true;
-            }
+            return p == 2 || writeFactors(p, open);
+        }
+
+        private boolean writeFactors(int p, int open) {
             int from = MOST_FACTORS * (open - 1);
             int behind = findFactors(p - 1, from);
             if (!putNumber(leastWitness(p, from, behind)) || !put(behind - from)) {
@@ -1282,7 +1277,9 @@ public final class NumberArena {
             int place = from;
             while (left > 1 && place < from + MOST_FACTORS && place < factors.length) {
                 factor = leastFactor(left, factor);
-                left = withoutFactor(factor, left);
+                for (int k = exponentOf(factor, left); k > 0 && factor >= 2; k--) {
+                    left /= factor;
+                }
                 factors[place] = factor;
                 place++;
             }

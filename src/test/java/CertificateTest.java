@@ -287,6 +287,11 @@ public final class CertificateTest {
     }
     check("20 q", 7, many, INVALID);
     check("21 q", 7, join(with(many, 4, 21), new int[] {1}, TWO), MALFORMED);
+    int[] great = join(long64, new int[] {1, 3, 3});
+    for (int k = 1; k <= 3; k++) {
+      great = join(great, new int[] {960}, with(long64, 1, k), new int[] {1, 3}, tail);
+    }
+    check("q whose powers are far too long", highest, great, INVALID);
     check("q as great as p", highest, join(long64, new int[] {1, 3, 1, 1}, long64,
         new int[] {1, 1, 1, 1}, TWO), INVALID);
   }
