@@ -1,6 +1,4 @@
 import java.math.BigInteger;
-import java.util.ArrayList;
-import java.util.List;
 
 /** Promises 26 to 30: words, and certificates that are checked and made. */
 public final class CertificateTest {
@@ -13,10 +11,9 @@ public final class CertificateTest {
   private static final int INVALID = 1;
   private static final int MALFORMED = 2;
 
-  /** Of 2, 3 and 7. */
-  private static final int[] TWO = {1, 2};
-  private static final int[] THREE = {1, 3, 1, 2, 1, 1, 1, 2};
-  private static final int[] SEVEN = join(new int[] {1, 7, 1, 3, 2, 1}, TWO, new int[] {1}, THREE);
+  private static final int[] TWO = Words.TWO;
+  private static final int[] THREE = Words.THREE;
+  private static final int[] SEVEN = Words.SEVEN;
 
   public static void main(String[] args) {
     word();
@@ -35,35 +32,6 @@ public final class CertificateTest {
     proveFull();
     proveAllBelow();
     Checks.finish();
-  }
-
-  private static int[] join(int[]... parts) {
-    List<Integer> all = new ArrayList<>();
-    for (int[] part : parts) {
-      for (int w : part) {
-        all.add(w);
-      }
-    }
-    return all.stream().mapToInt(Integer::intValue).toArray();
-  }
-
-  private static int[] without(int[] words, int at) {
-    return join(java.util.Arrays.copyOf(words, at), java.util.Arrays.copyOfRange(words, at + 1, words.length));
-  }
-
-  private static int[] with(int[] words, int at, int w) {
-    int[] copy = words.clone();
-    copy[at] = w;
-    return copy;
-  }
-
-  private static int[] limbs(BigInteger value) {
-    int[] words = new int[1 + Checks.lengthOf(value)];
-    words[0] = words.length - 1;
-    for (int i = 1; i < words.length; i++) {
-      words[i] = value.shiftRight(15 * (i - 1)).intValue() & 32767;
-    }
-    return words;
   }
 
   private static void check(String what, BigInteger p, int[] words, int due) {
@@ -139,54 +107,54 @@ public final class CertificateTest {
   }
 
   private static void checkWrongParts() {
-    check("7 by 5", 7, with(SEVEN, 3, 5), VALID);
-    check("7 by 1", 7, with(SEVEN, 3, 1), INVALID);
-    check("7 by 2, whose cube is 1", 7, with(SEVEN, 3, 2), INVALID);
-    check("7 by 6, whose square is 1", 7, with(SEVEN, 3, 6), INVALID);
-    check("7 by 10, not below p", 7, with(SEVEN, 3, 10), INVALID);
-    check("7 by 7", 7, with(SEVEN, 3, 7), INVALID);
-    check("7, 2 to the 2", 7, with(SEVEN, 5, 2), INVALID);
-    check("7, the inner 3 by 1", 7, with(SEVEN, 12, 1), INVALID);
-    check("7, falling", 7, join(new int[] {1, 7, 1, 3, 2, 1}, THREE, new int[] {1}, TWO), INVALID);
-    check("5, 2 twice", 5, join(new int[] {1, 5, 1, 2, 2, 1}, TWO, new int[] {1}, TWO), INVALID);
-    check("5", 5, join(new int[] {1, 5, 1, 2, 1, 2}, TWO), VALID);
-    check("7 by 2 alone", 7, join(new int[] {1, 7, 1, 3, 1, 1}, TWO), INVALID);
-    check("9 by 2^3", 9, join(new int[] {1, 9, 1, 2, 1, 3}, TWO), INVALID);
-    check("15 by 2 and 7", 15, join(new int[] {1, 15, 1, 2, 2, 1}, TWO, new int[] {1}, SEVEN), INVALID);
-    check("4 by 3", 4, join(new int[] {1, 4, 1, 3, 1, 1}, THREE), INVALID);
-    check("3 by itself", 3, join(new int[] {1, 3, 1, 2, 1, 1}, THREE), INVALID);
-    int[] one = join(new int[] {1, 1, 1, 1, 1, 1}, TWO);
+    check("7 by 5", 7, Words.with(SEVEN, 3, 5), VALID);
+    check("7 by 1", 7, Words.with(SEVEN, 3, 1), INVALID);
+    check("7 by 2, whose cube is 1", 7, Words.with(SEVEN, 3, 2), INVALID);
+    check("7 by 6, whose square is 1", 7, Words.with(SEVEN, 3, 6), INVALID);
+    check("7 by 10, not below p", 7, Words.with(SEVEN, 3, 10), INVALID);
+    check("7 by 7", 7, Words.with(SEVEN, 3, 7), INVALID);
+    check("7, 2 to the 2", 7, Words.with(SEVEN, 5, 2), INVALID);
+    check("7, the inner 3 by 1", 7, Words.with(SEVEN, 12, 1), INVALID);
+    check("7, falling", 7, Words.join(new int[] {1, 7, 1, 3, 2, 1}, THREE, new int[] {1}, TWO), INVALID);
+    check("5, 2 twice", 5, Words.join(new int[] {1, 5, 1, 2, 2, 1}, TWO, new int[] {1}, TWO), INVALID);
+    check("5", 5, Words.join(new int[] {1, 5, 1, 2, 1, 2}, TWO), VALID);
+    check("7 by 2 alone", 7, Words.join(new int[] {1, 7, 1, 3, 1, 1}, TWO), INVALID);
+    check("9 by 2^3", 9, Words.join(new int[] {1, 9, 1, 2, 1, 3}, TWO), INVALID);
+    check("15 by 2 and 7", 15, Words.join(new int[] {1, 15, 1, 2, 2, 1}, TWO, new int[] {1}, SEVEN), INVALID);
+    check("4 by 3", 4, Words.join(new int[] {1, 4, 1, 3, 1, 1}, THREE), INVALID);
+    check("3 by itself", 3, Words.join(new int[] {1, 3, 1, 2, 1, 1}, THREE), INVALID);
+    int[] one = Words.join(new int[] {1, 1, 1, 1, 1, 1}, TWO);
     check("1", 1, one, INVALID);
-    check("3 by 1 and 2", 3, join(new int[] {1, 3, 1, 2, 2, 1}, one, new int[] {1}, TWO), INVALID);
-    check("2 by 1 to the 960", 3, join(new int[] {1, 3, 1, 2, 1, 960}, one), INVALID);
+    check("3 by 1 and 2", 3, Words.join(new int[] {1, 3, 1, 2, 2, 1}, one, new int[] {1}, TWO), INVALID);
+    check("2 by 1 to the 960", 3, Words.join(new int[] {1, 3, 1, 2, 1, 960}, one), INVALID);
     // 13 - 1 is 12 by 4 and 3, were 4 a prime.
-    int[] four = join(new int[] {1, 4, 1, 3, 1, 1}, THREE);
-    check("13 by 3 and 4", 13, join(new int[] {1, 13, 1, 2, 2, 1}, THREE, new int[] {1}, four), INVALID);
-    check("13 by 2 and 3", 13, join(new int[] {1, 13, 1, 2, 2, 2}, TWO, new int[] {1}, THREE), VALID);
-    check("561, a Carmichael number", 561, join(new int[] {1, 561, 1, 2, 3, 4}, TWO, new int[] {1},
-        join(new int[] {1, 5, 1, 2, 1, 2}, TWO), new int[] {1}, SEVEN), INVALID);
+    int[] four = Words.join(new int[] {1, 4, 1, 3, 1, 1}, THREE);
+    check("13 by 3 and 4", 13, Words.join(new int[] {1, 13, 1, 2, 2, 1}, THREE, new int[] {1}, four), INVALID);
+    check("13 by 2 and 3", 13, Words.join(new int[] {1, 13, 1, 2, 2, 2}, TWO, new int[] {1}, THREE), VALID);
+    check("561, a Carmichael number", 561, Words.join(new int[] {1, 561, 1, 2, 3, 4}, TWO, new int[] {1},
+        Words.join(new int[] {1, 5, 1, 2, 1, 2}, TWO), new int[] {1}, SEVEN), INVALID);
   }
 
   private static void checkMalformed() {
     check("none", 2, new int[0], MALFORMED);
     check("2 and more", 2, new int[] {1, 2, 1}, MALFORMED);
-    check("7 and more", 7, join(SEVEN, new int[] {0}), MALFORMED);
+    check("7 and more", 7, Words.join(SEVEN, new int[] {0}), MALFORMED);
     for (int i = 0; i < SEVEN.length; i++) {
       check("7 cut", 7, java.util.Arrays.copyOf(SEVEN, i), MALFORMED);
     }
     for (int i = 1; i < SEVEN.length; i++) {
-      check("7 without word " + i, 7, without(SEVEN, i), MALFORMED);
+      check("7 without word " + i, 7, Words.without(SEVEN, i), MALFORMED);
     }
-    check("no limbs", 7, with(SEVEN, 0, 0), MALFORMED);
-    check("a highest limb of 0", 7, with(SEVEN, 1, 0), MALFORMED);
-    check("a witness without limbs", 7, with(SEVEN, 2, 0), MALFORMED);
-    check("a witness of 0", 7, with(SEVEN, 3, 0), MALFORMED);
-    check("K 0", 7, with(SEVEN, 4, 0), MALFORMED);
-    check("K 21", 7, with(SEVEN, 4, 21), MALFORMED);
-    check("E 0", 7, with(SEVEN, 5, 0), MALFORMED);
-    check("E 961", 7, with(SEVEN, 5, 961), MALFORMED);
-    check("E 960", 7, with(SEVEN, 5, 960), INVALID);
-    check("an inner K 0", 7, with(SEVEN, 13, 0), MALFORMED);
+    check("no limbs", 7, Words.with(SEVEN, 0, 0), MALFORMED);
+    check("a highest limb of 0", 7, Words.with(SEVEN, 1, 0), MALFORMED);
+    check("a witness without limbs", 7, Words.with(SEVEN, 2, 0), MALFORMED);
+    check("a witness of 0", 7, Words.with(SEVEN, 3, 0), MALFORMED);
+    check("K 0", 7, Words.with(SEVEN, 4, 0), MALFORMED);
+    check("K 21", 7, Words.with(SEVEN, 4, 21), MALFORMED);
+    check("E 0", 7, Words.with(SEVEN, 5, 0), MALFORMED);
+    check("E 961", 7, Words.with(SEVEN, 5, 961), MALFORMED);
+    check("E 960", 7, Words.with(SEVEN, 5, 960), INVALID);
+    check("an inner K 0", 7, Words.with(SEVEN, 13, 0), MALFORMED);
     check("2 with a witness", 2, new int[] {1, 2, 1, 1, 1, 1, 1, 2}, MALFORMED);
     check("2 in two limbs", 2, new int[] {2, 2, 0}, MALFORMED);
   }
@@ -194,7 +162,7 @@ public final class CertificateTest {
   private static int[] chainOfThrees(int threes) {
     int[] words = TWO;
     for (int i = 0; i < threes; i++) {
-      words = join(new int[] {1, 3, 1, 2, 1, 1}, words);
+      words = Words.join(new int[] {1, 3, 1, 2, 1, 1}, words);
     }
     return words;
   }
@@ -218,7 +186,7 @@ public final class CertificateTest {
         BigInteger half = Checks.big(w).modPow(p.shiftRight(1), p);
         BigInteger third = Checks.big(w).modPow(p.divide(Checks.big(3)), p);
         boolean good = p.subtract(BigInteger.ONE).equals(half) && !third.equals(BigInteger.ONE);
-        int[] words = join(limbs(p), new int[] {1, w, 2, k}, TWO, new int[] {1}, THREE);
+        int[] words = Words.join(Words.limbs(p), new int[] {1, w, 2, k}, TWO, new int[] {1}, THREE);
         if (w % 4 == 1 || good) {
           check("3 * 2^" + k + " + 1 by " + w, p, words, good ? VALID : INVALID);
         }
@@ -232,7 +200,7 @@ public final class CertificateTest {
     BigInteger three = Checks.big(3);
     BigInteger p = Checks.power(2, 189).multiply(three).add(BigInteger.ONE);
     BigInteger r = p.multiply(Checks.big(64 * 27)).add(BigInteger.ONE);
-    int[] inner = join(limbs(p), limbs(leastRoot(p, two, three)),
+    int[] inner = Words.join(Words.limbs(p), Words.limbs(leastRoot(p, two, three)),
         new int[] {2, 189}, TWO, new int[] {1}, THREE);
     BigInteger least = leastRoot(r, two, three, p);
     check("64 * 27 * (3 * 2^189 + 1) + 1", r, over(r, least, inner), VALID);
@@ -250,7 +218,7 @@ public final class CertificateTest {
   }
 
   private static int[] over(BigInteger r, BigInteger w, int[] inner) {
-    return join(limbs(r), limbs(w), new int[] {3, 6}, TWO, new int[] {3}, THREE, new int[] {1}, inner);
+    return Words.join(Words.limbs(r), Words.limbs(w), new int[] {3, 6}, TWO, new int[] {3}, THREE, new int[] {1}, inner);
   }
 
   private static boolean isRoot(BigInteger w, BigInteger p, BigInteger... factors) {
@@ -278,21 +246,21 @@ public final class CertificateTest {
     java.util.Arrays.fill(long64, 32767);
     long64[0] = 64;
     BigInteger highest = Checks.power(2, 960).subtract(BigInteger.ONE);
-    int[] tail = join(new int[] {1}, new int[] {960}, TWO);
-    check("64 limbs", highest, join(long64, long64, tail), INVALID);
-    check("65 limbs", highest, join(with(long64, 0, 65), new int[] {1}, long64, tail), MALFORMED);
+    int[] tail = Words.join(new int[] {1}, new int[] {960}, TWO);
+    check("64 limbs", highest, Words.join(long64, long64, tail), INVALID);
+    check("65 limbs", highest, Words.join(Words.with(long64, 0, 65), new int[] {1}, long64, tail), MALFORMED);
     int[] many = {1, 7, 1, 3, 20};
     for (int i = 0; i < 20; i++) {
-      many = join(many, new int[] {1}, TWO);
+      many = Words.join(many, new int[] {1}, TWO);
     }
     check("20 q", 7, many, INVALID);
-    check("21 q", 7, join(with(many, 4, 21), new int[] {1}, TWO), MALFORMED);
-    int[] great = join(long64, new int[] {1, 3, 3});
+    check("21 q", 7, Words.join(Words.with(many, 4, 21), new int[] {1}, TWO), MALFORMED);
+    int[] great = Words.join(long64, new int[] {1, 3, 3});
     for (int k = 1; k <= 3; k++) {
-      great = join(great, new int[] {960}, with(long64, 1, k), new int[] {1, 3}, tail);
+      great = Words.join(great, new int[] {960}, Words.with(long64, 1, k), new int[] {1, 3}, tail);
     }
     check("q whose powers are far too long", highest, great, INVALID);
-    check("q as great as p", highest, join(long64, new int[] {1, 3, 1, 1}, long64,
+    check("q as great as p", highest, Words.join(long64, new int[] {1, 3, 1, 1}, long64,
         new int[] {1, 1, 1, 1}, TWO), INVALID);
   }
 

@@ -1,15 +1,23 @@
 import java.math.BigInteger;
+import java.util.function.Supplier;
+import java.util.function.ToIntFunction;
 
 /** What the tests share: counting wrong answers, and bringing numbers in and out of an arena. */
 final class Checks {
   private static int wrong = 0;
+  private static String sentence = "";
 
   private Checks() { }
+
+  /** The sentence of the document that asks for the answers from here on. */
+  static void says(String text) {
+    sentence = "[" + text + "] ";
+  }
 
   static void due(String call, long got, long want) {
     if (got != want) {
       wrong++;
-      System.out.println(call + " answered " + got + ", due is " + want);
+      System.out.println(sentence + call + " answered " + got + ", due is " + want);
     }
   }
 
@@ -20,7 +28,7 @@ final class Checks {
   static void due(String call, Object got, Object want) {
     if (!want.equals(got)) {
       wrong++;
-      System.out.println(call + " gave " + got + ", due is " + want);
+      System.out.println(sentence + call + " gave " + got + ", due is " + want);
     }
   }
 
@@ -99,5 +107,85 @@ final class Checks {
     for (int i = 0; i < words.length; i++) {
       due("word(" + words[i] + ")", x.word(words[i]), i + 1);
     }
+  }
+
+  /**
+   * All that can be seen of an arena without a change, but for how often runs were slid. It takes
+   * a call for each cell, word and byte, and an object has 512: only for small ones.
+   */
+  static String picture(NumberArena x) {
+    StringBuilder text = new StringBuilder("about");
+    for (int what : new int[] {0, 1, 3, 4, 5, 6, 7, 8}) {
+      text.append(' ').append(x.about(what));
+    }
+    int handles = Math.min(8, x.about(5));
+    for (int h = 0; h < handles; h++) {
+      text.append(", handle ").append(h).append(' ').append(x.look(h, 0));
+      if (x.look(h, 0) >= 0) {
+        text.append(' ').append(x.look(h, 1)).append(' ').append(x.look(h, 2));
+      }
+    }
+    text.append(", cells");
+    int end = x.about(1);
+    for (int i = 0; i < end; i++) {
+      text.append(' ').append(x.cell(i));
+    }
+    text.append(", words");
+    int words = x.about(4);
+    for (int i = 0; i <= words; i++) {
+      text.append(' ').append(x.told(i));
+    }
+    text.append(", out");
+    for (int i = 0, b = x.out(0); b >= 0; b = x.out(++i)) {
+      text.append(' ').append(b);
+    }
+    return text.append(", fault ").append(x.fault()).toString();
+  }
+
+  /** The call answers that, and changes nothing; but runs are slid so often. */
+  static void changesNothing(NumberArena x, String call, int code, int slides, ToIntFunction<NumberArena> act) {
+    int slidBefore = x.about(2);
+    String before = picture(x);
+    due(call, act.applyAsInt(x), code);
+    due(call + ", what there is then", picture(x), before);
+    due(call + ", slides", x.about(2) - slidBefore, slides);
+  }
+
+  static void changesNothing(NumberArena x, String call, int code, ToIntFunction<NumberArena> act) {
+    changesNothing(x, call, code, 0, act);
+  }
+
+  /** The same on an object of its own, as the pictures take a good part of an object's 512 calls. */
+  static void changesNothing(Supplier<NumberArena> made, String call, int code, ToIntFunction<NumberArena> act) {
+    changesNothing(made.get(), call, code, 0, act);
+  }
+
+  /** Handles 0, 1 .. with these numbers, each in a run just as long, and so many free cells. */
+  static NumberArena withFree(int free, BigInteger... values) {
+    return withGap(0, free, values);
+  }
+
+  /** Handles 1, 2 .. if there is a gap below the first run, else 0, 1 ..; free cells behind. */
+  static NumberArena withGap(int gap, int free, BigInteger... values) {
+    int used = gap + free;
+    for (BigInteger value : values) {
+      used += Math.max(1, lengthOf(value));
+    }
+    NumberArena x = new NumberArena(8, used, 60);
+    int first = gap > 0 ? 1 : 0;
+    if (gap > 0) {
+      due("alloc of the gap", x.alloc(gap), 0);
+    }
+    for (int k = 0; k < values.length; k++) {
+      due("alloc", x.alloc(Math.max(1, lengthOf(values[k]))), first + k);
+      set(x, first + k, values[k]);
+    }
+    if (used < 16) {
+      due("alloc of what a row must have", x.alloc(16 - used), first + values.length);
+    }
+    if (gap > 0) {
+      due("release of the gap", x.release(0), 0);
+    }
+    return x;
   }
 }
