@@ -136,6 +136,7 @@ public final class ArithmeticBoundaryTest {
     holds(x, 2, limbs(32).pow(2));
     NumberArena y = Checks.withFree(129, HIGHEST, B1, B0);
     Checks.changesNothing(y, "64 limbs by 1, though the product has 64", TOO_LONG, a -> a.mul(2, 0, 1));
+    Checks.due("1 by 64 limbs", y.mul(2, 1, 0), TOO_LONG);
     Checks.due("64 limbs by 0", y.mul(1, 0, 2), 0);
     Checks.due("0 by 64 limbs", y.mul(1, 2, 0), 0);
     NumberArena z = Checks.arena(200, 8, 63, 1, 63);
@@ -233,6 +234,13 @@ public final class ArithmeticBoundaryTest {
     quotient(B0, B1);
     quotient(B0, HIGHEST);
     quotient(B1, HIGHEST);
+    NumberArena x = Checks.arena(60, 8, 3, 2, 3, 3);
+    Checks.set(x, 0, limbs(3));
+    Checks.set(x, 1, limbs(2));
+    Checks.due("3 limbs by 2", x.divmod(2, 3, 0, 1), 2);
+    Checks.due("less by more behind it", x.divmod(2, 3, 1, 0), 0);
+    holds(x, 2, B0);
+    holds(x, 3, limbs(2));
   }
 
   private static void divmodTakes() {
@@ -412,7 +420,22 @@ public final class ArithmeticBoundaryTest {
     NumberArena zero = Checks.arena(16, 8, 1);
     Checks.due("0 by 960", zero.shift(0, 0, 960), 0);
     Checks.due("0 by -960", zero.shift(0, 0, -960), 0);
+    shiftDownwards();
     shiftTooLong();
+  }
+
+  private static void shiftDownwards() {
+    Checks.says("Promise 17: a times 2 to the n, downwards if n is below 0");
+    BigInteger value = Checks.power(7, 32);
+    for (int n = -value.bitLength() - 1; n <= 90 - value.bitLength(); n++) {
+      NumberArena x = Checks.arena(40, 8, 6, 6);
+      Checks.set(x, 0, value);
+      BigInteger due = value.shiftLeft(n);
+      Checks.due("7^32 by " + n, x.shift(1, 0, n), Checks.lengthOf(due));
+      holds(x, 1, due);
+      Checks.due("onto itself", x.shift(0, 0, n), Checks.lengthOf(due));
+      holds(x, 0, due);
+    }
   }
 
   private static void shiftTooLong() {
@@ -455,6 +478,25 @@ public final class ArithmeticBoundaryTest {
     }
   }
 
+  // The symbols of 0, 1 .. 9 by m; those by an even m are BAD_ARG.
+  private static void jacobiOfSmallNumbers() {
+    int[][] due = {
+      {}, {2, 2, 2, 2, 2, 2, 2, 2, 2, 2}, {}, {1, 2, 0, 1, 2, 0, 1, 2, 0, 1}, {},
+      {1, 2, 0, 0, 2, 1, 2, 0, 0, 2}, {}, {1, 2, 2, 0, 2, 0, 0, 1, 2, 2}, {},
+      {1, 2, 2, 1, 2, 2, 1, 2, 2, 1}, {}, {1, 2, 0, 2, 2, 2, 0, 0, 0, 2}, {},
+      {1, 2, 0, 2, 2, 0, 0, 0, 0, 2}, {}, {1, 2, 2, 1, 2, 1, 1, 0, 2, 1}, {},
+      {1, 2, 2, 0, 2, 0, 0, 0, 2, 2},
+    };
+    for (int m = 0; m < due.length; m++) {
+      NumberArena x = Checks.arena(16, 8, 2, 2);
+      x.setLimb(1, 0, m);
+      for (int a = 0; a < 10; a++) {
+        x.setLimb(0, 0, a);
+        Checks.due(a + " by " + m, x.jacobi(0, 1), m % 2 == 0 ? BAD_ARG : due[m][a]);
+      }
+    }
+  }
+
   private static void jacobi() {
     Checks.says("Promise 19: BAD_ARG: m is even");
     NumberArena x = Checks.withFree(9, limbs(2), B0, limbs(2).subtract(B1), B1);
@@ -467,6 +509,7 @@ public final class ArithmeticBoundaryTest {
     Checks.due("1 by more", x.jacobi(3, 0), 2);
     Checks.due("by itself", x.jacobi(0, 0), 1);
     Checks.due("-1 by what is 3 modulo 4", x.jacobi(2, 0), 0);
+    jacobiOfSmallNumbers();
     Checks.says("Promise 19: BAD_ARG ahead of NO_ROOM");
     NumberArena y = Checks.withFree(0, limbs(9), B0, limbs(6));
     Checks.changesNothing(y, "by 0", BAD_ARG, a -> a.jacobi(0, 1));

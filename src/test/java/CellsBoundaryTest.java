@@ -545,6 +545,11 @@ public final class CellsBoundaryTest {
     for (int i = 0; i < 16; i++) {
       Checks.due("cell(" + i + ")", x.cell(i), 0);
     }
+    NumberArena y = Checks.withFree(4, limbs(2), limbs(2));
+    Checks.due("a sum of 3 limbs", y.add(0, 0, 1), 3);
+    Checks.due("alloc(1) behind it", y.alloc(1) >= 0, true);
+    Checks.due("its length", y.look(y.about(3) - 1, 0), 0);
+    Checks.due("its cell", y.cell(y.about(1) - 1), 0);
   }
 
   private static void release() {
@@ -670,6 +675,10 @@ public final class CellsBoundaryTest {
     for (int i : new int[] {2, 3, 4, 63, 64, 65, 800, MAX}) {
       Checks.due("limb(0, " + i + ")", x.limb(0, i), 0);
     }
+    NumberArena y = Checks.withFree(0, limbs(8), limbs(8));
+    Checks.due("limb(0, 7) of a full run", y.limb(0, 7), 32767);
+    Checks.due("limb(0, 8), which is a limb of the next run", y.limb(0, 8), 0);
+    Checks.due("limb(1, 8), behind the last cell", y.limb(1, 8), 0);
     Checks.says("Promise 6: BAD_HANDLE");
     for (int h : new int[] {MIN, -1, 2, 24, MAX}) {
       Checks.due("limb(" + h + ", 0)", x.limb(h, 0), BAD_HANDLE);

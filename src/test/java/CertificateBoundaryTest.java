@@ -141,6 +141,14 @@ public final class CertificateBoundaryTest {
     Checks.due("W words that are a node", x.check(0), VALID);
     Checks.words(x, Words.with(SEVEN, 4, 3));
     Checks.due("W words and a node that is cut", x.check(0), MALFORMED);
+    for (int n = 8; n < SEVEN.length; n++) {
+      NumberArena y = Checks.arena(100, n, 1);
+      Checks.words(y, Arrays.copyOf(SEVEN, n));
+      Checks.due("W words, the first " + n + " of more", y.check(0), MALFORMED);
+    }
+    NumberArena z = Checks.arena(100, 8, 1);
+    Checks.words(z, 2, 3, 1, 2, 2, 1, 1, 1);
+    Checks.due("W words and no node behind E", z.check(0), MALFORMED);
   }
 
   private static int[] threesInOneAnother(int nodes) {
@@ -384,6 +392,15 @@ public final class CertificateBoundaryTest {
     check("7 for 7 + 2^15", 7 + 32768, INVALID, SEVEN);
     check("7 for 7 * 2^15", 7 * 32768, INVALID, SEVEN);
     check("65537 for 1", 1, INVALID, 2, 1, 2, 1, 3, 1, 16, 1, 2);
+    Checks.says("Promise 29: a row alone, whatever rows there were ahead of it");
+    NumberArena x = Checks.arena(100, 60, 2);
+    for (int p : new int[] {31, 2, 7, 3, 43, 5, 11, 65537, 2}) {
+      Checks.set(x, 0, p);
+      Checks.words(x, Words.certificate(p));
+      Checks.due("check of " + p, x.check(0), VALID);
+      Checks.words(x, 1, 3, 1, 1, 1, 1, 1, 2);
+      Checks.due("check of 3 by 1", x.check(0), INVALID);
+    }
   }
 
   private static void checkNeedsCells() {
@@ -453,6 +470,8 @@ public final class CertificateBoundaryTest {
     for (int number : new int[] {2, 3, 5, 32749, 32771}) {
       proves(number, Checks.arena(20, 400, 2));
     }
+    NumberArena y = Checks.withFree(0, Checks.big(7), Checks.big(32767));
+    Checks.due("7 in a full run, another one behind it", y.prove(0), SEVEN.length);
   }
 
   private static void proveTooLong() {

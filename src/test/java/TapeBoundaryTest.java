@@ -330,6 +330,7 @@ public final class TapeBoundaryTest {
     Checks.due("its first byte", x.out(0), '1');
     Checks.due("its last byte", x.out(959), '0');
     Checks.due("behind it", x.out(960), NONE);
+    Checks.due("a look at the longer one", x.compare(0, 0), 1);
     Checks.due("fewer again", x.text(1, 2), 10);
     Checks.due("the last one", x.out(9), '1');
     Checks.due("behind it", x.out(10), NONE);
